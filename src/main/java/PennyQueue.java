@@ -383,8 +383,7 @@ public final class PennyQueue {
         for (int k = 0; k < day.hands; k++) {
             below *= CERTAIN;
         }
-        long common = sharedBy(above, below, 2) * sharedBy(above, below, 5);
-        return part == 0 ? above / common : below / common;
+        return reduced(above, below, part);
     }
 
     // ---- judging, the image, acts, tapes
@@ -567,8 +566,7 @@ public final class PennyQueue {
     }
 
     private void goThroughWith(Order order, Day who, int price, int more) {
-        hour.begin(order, held(), price, more);
-        hour.pass(who, sortCount);
+        hour.pass(order, held(), price, more, who, sortCount);
     }
 
     /** Lets those of the day's hands whose bits are set come in the trial: by how many chances of 10 to the hands. */
@@ -587,16 +585,19 @@ public final class PennyQueue {
         return weight;
     }
 
-    /** The highest power of a prime in both numbers; below the line stands a power of ten, of CHANCES at most. */
-    private static long sharedBy(long above, long below, long prime) {
-        long power = 1;
+    /** A part of the fraction in lowest terms; below the line stands a power of ten, of CHANCES at most. */
+    private static long reduced(long above, long below, int part) {
         for (int k = 0; k < CHANCES; k++) {
-            long next = power * prime;
-            if (above % next == 0 && below % next == 0) {
-                power = next;
+            if (above % 2 == 0 && below % 2 == 0) {
+                above /= 2;
+                below /= 2;
+            }
+            if (above % 5 == 0 && below % 5 == 0) {
+                above /= 5;
+                below /= 5;
             }
         }
-        return power;
+        return part == 0 ? above : below;
     }
 
     private static Order made(int kind, int number, int v) {
@@ -698,11 +699,11 @@ public final class PennyQueue {
 
     /** What a text tells: price, more, most, and for each come a run of steps, operands ahead of their operator. */
     private static final class Window {
-        private static final int CLAUSES = 8, NESTED = 4;
+        private static final int CLAUSES = 8, NESTED = 4, SLOWEST = 20, UNTOLD_MOST = 30;
         private static final int AND = -1, OR = -2, NOT = -3;
         private static final String LETTERS = "tlfn", SIGNS = "<=>";
 
-        int price, more, most = 30;
+        int price, more, most = UNTOLD_MOST;
         private int comes;
         private final int[] comeSort = new int[CLAUSES];
         private final int[] comeEnd = new int[CLAUSES];
@@ -716,20 +717,18 @@ public final class PennyQueue {
         int parse(byte[] text, int textLength) {
             price = 0;
             more = 0;
-            most = 30;
+            most = UNTOLD_MOST;
             comes = 0;
             stepCount = 0;
             bytes = text;
             length = textLength;
             place = 0;
             for (int clauses = 1; clauses <= CLAUSES; clauses++) {
-                if (!clause()) {
-                    return place;
-                }
-                if (place == length) {
+                boolean fits = skip('c') ? comeClause() : numberClause();
+                if (fits && place == length) {
                     return -1;
                 }
-                if (clauses == CLAUSES || !skip(';')) {
+                if (!fits || clauses == CLAUSES || !skip(';')) {
                     return place;
                 }
             }
@@ -771,38 +770,10 @@ public final class PennyQueue {
             return sign == 0 ? value < number : sign == 1 ? value == number : value > number;
         }
 
-        private boolean clause() {
-            if (skip('c')) {
-                return word("ome ") && comeClause();
-            }
-            if (skip('p')) {
-                if (!word("rice ")) {
-                    return false;
-                }
-                int n = number();
-                price = Math.min(n, 20);
-                return n >= 0;
-            }
-            if (!skip('m') || !skip('o')) {
-                return false;
-            }
-            if (skip('r')) {
-                if (!word("e ")) {
-                    return false;
-                }
-                int n = number();
-                more = Math.min(n, 20);
-                return n >= 0;
-            }
-            if (!word("st ")) {
-                return false;
-            }
-            int n = number();
-            most = Math.min(n, MOST);
-            return n >= 0;
-        }
-
         private boolean comeClause() {
+            if (comes >= CLAUSES || !word("ome ")) {
+                return false;
+            }
             int k = digit();
             if (k < 0 || k >= SORTS) {
                 return false;
@@ -817,30 +788,68 @@ public final class PennyQueue {
             return true;
         }
 
-        private boolean either(int within) {
-            if (!both(within)) {
+        private boolean numberClause() {
+            int told = numberWord();
+            int n = told < 0 ? -1 : number();
+            if (n < 0) {
                 return false;
             }
-            while (skip('|')) {
-                if (!both(within)) {
-                    return false;
-                }
-                step(OR);
+            switch (told) {
+                case 0:
+                    price = Math.min(n, DEAREST);
+                    break;
+                case 1:
+                    more = Math.min(n, SLOWEST);
+                    break;
+                default:
+                    most = Math.min(n, MOST);
+                    break;
             }
             return true;
         }
 
-        private boolean both(int within) {
-            if (!factor(within)) {
-                return false;
+        /** Which word stands at the place, with its blank: 0 price, 1 more, 2 most; -1: none. */
+        private int numberWord() {
+            if (skip('p')) {
+                return word("rice ") ? 0 : -1;
             }
-            while (skip('&')) {
+            if (!word("mo")) {
+                return -1;
+            }
+            if (skip('r')) {
+                return word("e ") ? 1 : -1;
+            }
+            return word("st ") ? 2 : -1;
+        }
+
+        private boolean either(int within) {
+            for (int parts = 0; parts < TEXT; parts++) {
+                if (!both(within)) {
+                    return false;
+                }
+                if (parts > 0) {
+                    step(OR);
+                }
+                if (!skip('|')) {
+                    return true;
+                }
+            }
+            return false;
+        }
+
+        private boolean both(int within) {
+            for (int parts = 0; parts < TEXT; parts++) {
                 if (!factor(within)) {
                     return false;
                 }
-                step(AND);
+                if (parts > 0) {
+                    step(AND);
+                }
+                if (!skip('&')) {
+                    return true;
+                }
             }
-            return true;
+            return false;
         }
 
         private boolean factor(int within) {
@@ -1006,22 +1015,18 @@ public final class PennyQueue {
             super(number, v);
         }
 
-        @Override
         int kind() {
             return 1;
         }
 
-        @Override
         int aheadOfPaying(int paying, int both) {
             return paying;
         }
 
-        @Override
         int next(int paying, int free, int takenInRow) {
             return paying >= 0 ? paying : free;
         }
 
-        @Override
         int takes(int x) {
             began(20);
             return super.takes(x) ^ 6;
@@ -1033,22 +1038,18 @@ public final class PennyQueue {
             super(number, v);
         }
 
-        @Override
         int kind() {
             return 2;
         }
 
-        @Override
         int aheadOfPaying(int paying, int both) {
             return paying;
         }
 
-        @Override
         int next(int paying, int free, int takenInRow) {
             return paying >= 0 && (takenInRow < v || free < 0) ? paying : free;
         }
 
-        @Override
         int joins(int x) {
             began(30);
             return super.joins(x * 3);
@@ -1060,23 +1061,19 @@ public final class PennyQueue {
             super(number, v);
         }
 
-        @Override
         int kind() {
             return 3;
         }
 
-        @Override
         int asks(int price, int inPaying) {
             return price + v * inPaying;
         }
 
-        @Override
         int joins(int x) {
             began(50);
             return -super.joins(x);
         }
 
-        @Override
         int takes(int x) {
             began(51);
             return super.takes(x + 1);
@@ -1088,17 +1085,14 @@ public final class PennyQueue {
             super(number, v);
         }
 
-        @Override
         int kind() {
             return 4;
         }
 
-        @Override
         int due(int asked, int purse) {
             return purse < asked ? 0 : asked;
         }
 
-        @Override
         int tells(int x) {
             began(60);
             return super.tells(x - number);
@@ -1110,17 +1104,14 @@ public final class PennyQueue {
             super(number, v);
         }
 
-        @Override
         int kind() {
             return 5;
         }
 
-        @Override
         boolean turnsAway(int standing) {
             return standing >= v;
         }
 
-        @Override
         int tells(int x) {
             began(40);
             return super.tells(x) + takes(1);
@@ -1137,30 +1128,26 @@ public final class PennyQueue {
             Arrays.fill(row, -1);
         }
 
-        @Override
         int kind() {
             return 6;
         }
 
-        @Override
         int lineTold(int i) {
             return i < 0 || i >= ROW ? -1 : row[i];
         }
 
-        @Override
         int takes(int x) {
             began(70);
             return super.takes(x) + super.joins(2);
         }
 
-        @Override
         int joins(int x) {
             began(71);
             return super.joins(x) ^ v;
         }
     }
 
-    /** One hour by one ORDER: begin(), pass(), and then what came of it. */
+    /** One hour by one ORDER: pass(), and then what came of it. */
     private static final class Hour {
         final int[] sortOf = new int[MOST];
         final int[] minuteOf = new int[MOST];
@@ -1189,21 +1176,8 @@ public final class PennyQueue {
             this.sorts = sorts;
         }
 
-        void begin(Order newOrder, Window newWindow, int newPrice, int newMore) {
-            order = newOrder;
-            window = newWindow;
-            price = newPrice;
-            more = newMore;
-            came = 0;
-            servedCount = 0;
-            lastByHand = -1;
-            busyTill = 0;
-            takenInRow = 0;
-            Arrays.fill(standing, 0);
-            Arrays.fill(times, 0);
-        }
-
-        void pass(Day day, int sortCount) {
+        void pass(Order by, Window told, int withPrice, int withMore, Day day, int sortCount) {
+            begin(by, told, withPrice, withMore);
             for (minute = 0; minute < MINUTES; minute++) {
                 comeByHand(day);
                 comeByText(sortCount);
@@ -1214,6 +1188,20 @@ public final class PennyQueue {
                 minute = Math.max(minute, busyTill);
                 serve();
             }
+        }
+
+        private void begin(Order by, Window told, int withPrice, int withMore) {
+            order = by;
+            window = told;
+            price = withPrice;
+            more = withMore;
+            came = 0;
+            servedCount = 0;
+            lastByHand = -1;
+            busyTill = 0;
+            takenInRow = 0;
+            Arrays.fill(standing, 0);
+            Arrays.fill(times, 0);
         }
 
         private void comeByHand(Day day) {
@@ -1276,7 +1264,7 @@ public final class PennyQueue {
                 return;
             }
             int who = order.next(firstOf(PAYING), firstOf(FREE), takenInRow);
-            if (who < 0) {
+            if (who < 0 || servedCount >= MOST) {
                 return;
             }
             int line = lineOf[who], time = timeOf(sortOf[who]);
