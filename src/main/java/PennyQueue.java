@@ -702,6 +702,8 @@ public final class PennyQueue {
         private static final int CLAUSES = 8, NESTED = 4, SLOWEST = 20, UNTOLD_MOST = 30;
         private static final int AND = -1, OR = -2, NOT = -3;
         private static final String LETTERS = "tlfn", SIGNS = "<=>";
+        /** A TEST is one step: its letter and sign, by their places above, times this, and its number. */
+        private static final int NUMBERS = 100;
 
         int price, more, most = UNTOLD_MOST;
         private int comes;
@@ -758,9 +760,9 @@ public final class PennyQueue {
                 } else if (step == OR) {
                     bits = bits >> 1 | bits & 1;
                 } else {
-                    int letter = step / 300;
+                    int letter = step / (NUMBERS * 3), sign = step / NUMBERS % 3;
                     int value = letter == 0 ? t : letter == 1 ? l : letter == 2 ? f : n;
-                    bits = bits << 1 | (tested(value, step / 100 % 3, step % 100) ? 1 : 0);
+                    bits = bits << 1 | (tested(value, sign, step % NUMBERS) ? 1 : 0);
                 }
             }
             return (bits & 1) == 1;
@@ -879,7 +881,7 @@ public final class PennyQueue {
             if (n < 0) {
                 return false;
             }
-            step(letter * 300 + sign * 100 + n);
+            step((letter * 3 + sign) * NUMBERS + n);
             return true;
         }
 

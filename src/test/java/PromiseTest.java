@@ -204,6 +204,14 @@ public final class PromiseTest {
         due("no window of it", y.count(1), 1);
         due("next number", Checks.window(y, "more 3"), 1);
         due("nothing of the one before", y.told(0), 0);
+        Checks.window(y, "come 0 t<60;price 7;more 7;most 7;x");
+        due("behind a fault", Checks.window(y, "come 5 t=1"), 2);
+        due("no price of the faulty text", y.told(0), 0);
+        due("no more of the faulty text", y.told(1), 0);
+        due("no most of the faulty text", y.told(2), 30);
+        y.sort(1, 1, 1, 1);
+        y.order(0, 1);
+        due("no come of the faulty text", y.all(0, 0), 0);
     }
 
     private static void faults() {
@@ -377,6 +385,9 @@ public final class PromiseTest {
         checks.dues("first: how-manyeth", comers(x, 1, 5), 3, 0, 1, 2);
         checks.dues("first: who", servedOnes(x, 1, 0), 1, 2, 3, 0);
         checks.dues("first: when", servedOnes(x, 1, 1), 0, 3, 5, 7);
+        due("each call goes through its own order's hour", x.served(0, 1, 0), 1);
+        due("comer of the other", x.comer(1, 1, 2), 1);
+        due("served of the other", x.served(0, 1, 1), 3);
         due("comer, order 2", x.comer(2, 0, 0), -1001);
         due("comer, order -1", x.comer(-1, 0, 0), -1001);
         due("comer 4", x.comer(0, 4, 0), -1001);
