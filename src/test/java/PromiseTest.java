@@ -69,30 +69,6 @@ public final class PromiseTest {
         return x;
     }
 
-    private static long[] alls(PennyQueue x, int order) {
-        long[] got = new long[8];
-        for (int what = 0; what < 8; what++) {
-            got[what] = x.all(order, what);
-        }
-        return got;
-    }
-
-    private static long[] comers(PennyQueue x, int order, int what) {
-        long[] got = new long[x.all(order, 0)];
-        for (int i = 0; i < got.length; i++) {
-            got[i] = x.comer(order, i, what);
-        }
-        return got;
-    }
-
-    private static long[] servedOnes(PennyQueue x, int order, int what) {
-        long[] got = new long[x.all(order, 1)];
-        for (int i = 0; i < got.length; i++) {
-            got[i] = x.served(order, i, what);
-        }
-        return got;
-    }
-
     // ---- promise 1
 
     private static void newObject() {
@@ -371,20 +347,20 @@ public final class PromiseTest {
         Checks.window(x, "price 1");
         x.order(0, 1);
         x.order(1, 1);
-        checks.dues("sorts", comers(x, 0, 0), 0, 0, 1, 1);
-        checks.dues("minutes", comers(x, 0, 1), 0, 0, 0, 1);
-        checks.dues("all in the free line, or home", comers(x, 0, 2), 0, 0, 0, 2);
-        checks.dues("nothing is paid", comers(x, 0, 3), 0, 0, 0, 0);
-        checks.dues("waits", comers(x, 0, 4), 0, 3, 6, -5);
-        checks.dues("how-manyeth", comers(x, 0, 5), 0, 1, 2, -5);
-        checks.dues("who", servedOnes(x, 0, 0), 0, 1, 2);
-        checks.dues("when", servedOnes(x, 0, 1), 0, 3, 6);
-        checks.dues("first: lines", comers(x, 1, 2), 0, 1, 1, 1);
-        checks.dues("first: paid", comers(x, 1, 3), 0, 1, 1, 1);
-        checks.dues("first: waits", comers(x, 1, 4), 7, 0, 3, 4);
-        checks.dues("first: how-manyeth", comers(x, 1, 5), 3, 0, 1, 2);
-        checks.dues("first: who", servedOnes(x, 1, 0), 1, 2, 3, 0);
-        checks.dues("first: when", servedOnes(x, 1, 1), 0, 3, 5, 7);
+        checks.dues("sorts", Made.comers(x, 0, 0), 0, 0, 1, 1);
+        checks.dues("minutes", Made.comers(x, 0, 1), 0, 0, 0, 1);
+        checks.dues("all in the free line, or home", Made.comers(x, 0, 2), 0, 0, 0, 2);
+        checks.dues("nothing is paid", Made.comers(x, 0, 3), 0, 0, 0, 0);
+        checks.dues("waits", Made.comers(x, 0, 4), 0, 3, 6, -5);
+        checks.dues("how-manyeth", Made.comers(x, 0, 5), 0, 1, 2, -5);
+        checks.dues("who", Made.served(x, 0, 0), 0, 1, 2);
+        checks.dues("when", Made.served(x, 0, 1), 0, 3, 6);
+        checks.dues("first: lines", Made.comers(x, 1, 2), 0, 1, 1, 1);
+        checks.dues("first: paid", Made.comers(x, 1, 3), 0, 1, 1, 1);
+        checks.dues("first: waits", Made.comers(x, 1, 4), 7, 0, 3, 4);
+        checks.dues("first: how-manyeth", Made.comers(x, 1, 5), 3, 0, 1, 2);
+        checks.dues("first: who", Made.served(x, 1, 0), 1, 2, 3, 0);
+        checks.dues("first: when", Made.served(x, 1, 1), 0, 3, 5, 7);
         due("each call goes through its own order's hour", x.served(0, 1, 0), 1);
         due("comer of the other", x.comer(1, 1, 2), 1);
         due("served of the other", x.served(0, 1, 1), 3);
@@ -406,15 +382,15 @@ public final class PromiseTest {
         Checks.window(x, "price 1");
         x.order(0, 1);
         x.order(1, 1);
-        checks.dues("order", alls(x, 0), 4, 3, 3, 1, 36, 0, 8, 0);
-        checks.dues("first", alls(x, 1), 4, 4, 1, 0, 49, 3, 10, 3);
+        checks.dues("order", Made.alls(x, 0), 4, 3, 3, 1, 36, 0, 8, 0);
+        checks.dues("first", Made.alls(x, 1), 4, 4, 1, 0, 49, 3, 10, 3);
         Checks.window(x, "price 1;more 2");
         // 1 waits 5 of 5 (10), 2 would cost 50: home; 3 would cost 5 * 9: home
-        checks.dues("more", alls(x, 0), 4, 2, 2, 2, 10, 0, 10, 0);
+        checks.dues("more", Made.alls(x, 0), 4, 2, 2, 2, 10, 0, 10, 0);
         Checks.window(x, "most 2");
-        checks.dues("most", alls(x, 0), 2, 2, 2, 0, 6, 0, 6, 0);
+        checks.dues("most", Made.alls(x, 0), 2, 2, 2, 0, 6, 0, 6, 0);
         Checks.window(x, "most 0");
-        checks.dues("nobody", alls(x, 0), 0, 0, 0, 0, 0, 0, 0, 0);
+        checks.dues("nobody", Made.alls(x, 0), 0, 0, 0, 0, 0, 0, 0, 0);
         due("what 8", x.all(0, 8), -1);
         due("what -1", x.all(0, -1), -1);
         due("order 2", x.all(2, 0), -1);
@@ -423,7 +399,7 @@ public final class PromiseTest {
         x.clear();
         Checks.window(x, "price 0");
         x.come(0, 59);
-        checks.dues("late", alls(x, 0), 1, 1, 1, 0, 0, 0, 62, 0);
+        checks.dues("late", Made.alls(x, 0), 1, 1, 1, 0, 0, 0, 62, 0);
         // back is cut: 3 pence by two from the free line
         PennyQueue y = new PennyQueue();
         y.sort(0, 99, 0, 1);
@@ -433,7 +409,7 @@ public final class PromiseTest {
         }
         Checks.window(y, "price 1");
         y.order(1, 1);
-        checks.dues("back", alls(y, 0), 5, 5, 2, 0, 27, 3, 5, 1);
+        checks.dues("back", Made.alls(y, 0), 5, 5, 2, 0, 27, 3, 5, 1);
     }
 
     private static void stand() {
@@ -492,11 +468,11 @@ public final class PromiseTest {
         x.order(2, 2);
         x.order(2, 1);
         x.order(2, 9);
-        checks.dues("lines", comers(x, 1, 2), 0, 0, 1, 1, 1, 1);
-        checks.dues("first", servedOnes(x, 0, 0), 2, 3, 4, 5, 0, 1);
-        checks.dues("share 2", servedOnes(x, 1, 0), 2, 3, 0, 4, 5, 1);
-        checks.dues("share 1", servedOnes(x, 2, 0), 2, 0, 3, 1, 4, 5);
-        checks.dues("share 9", servedOnes(x, 3, 0), 2, 3, 4, 5, 0, 1);
+        checks.dues("lines", Made.comers(x, 1, 2), 0, 0, 1, 1, 1, 1);
+        checks.dues("first", Made.served(x, 0, 0), 2, 3, 4, 5, 0, 1);
+        checks.dues("share 2", Made.served(x, 1, 0), 2, 3, 0, 4, 5, 1);
+        checks.dues("share 1", Made.served(x, 2, 0), 2, 0, 3, 1, 4, 5);
+        checks.dues("share 9", Made.served(x, 3, 0), 2, 3, 4, 5, 0, 1);
         // taken from the paying line while nobody was in the free one counts, too
         PennyQueue y = new PennyQueue();
         y.sort(0, 99, 0, 1);
@@ -507,8 +483,8 @@ public final class PromiseTest {
         y.come(0, 1);
         y.order(2, 2);
         Checks.window(y, "price 0");
-        checks.dues("lines", comers(y, 0, 2), 0, 1, 1, 0);
-        checks.dues("share", servedOnes(y, 0, 0), 1, 2, 0, 3);
+        checks.dues("lines", Made.comers(y, 0, 2), 0, 1, 1, 0);
+        checks.dues("share", Made.served(y, 0, 0), 1, 2, 0, 3);
     }
 
     private static void length() {
@@ -520,8 +496,8 @@ public final class PromiseTest {
         Checks.window(x, "price 1");
         x.order(3, 4);
         // 0: free 0. 1: 1 < 10. 2: price 5, 10 + 5 < 20. 3: 9, 20 + 9 < 30. 4: price 13 is above the purse
-        checks.dues("lines", comers(x, 0, 2), 0, 1, 1, 1, 0);
-        checks.dues("paid", comers(x, 0, 3), 0, 1, 5, 9, 0);
+        checks.dues("lines", Made.comers(x, 0, 2), 0, 1, 1, 1, 0);
+        checks.dues("paid", Made.comers(x, 0, 3), 0, 1, 5, 9, 0);
         due("pence", x.all(0, 5), 15);
     }
 
@@ -536,9 +512,9 @@ public final class PromiseTest {
         Checks.window(x, "price 3");
         x.order(2, 9);
         x.order(4, 9);
-        checks.dues("share: the poor don't pay", comers(x, 0, 2), 0, 0, 1, 0);
-        checks.dues("poor: nor here, but they pass", comers(x, 1, 2), 0, 1, 1, 1);
-        checks.dues("paid", comers(x, 1, 3), 0, 0, 3, 0);
+        checks.dues("share: the poor don't pay", Made.comers(x, 0, 2), 0, 0, 1, 0);
+        checks.dues("poor: nor here, but they pass", Made.comers(x, 1, 2), 0, 1, 1, 1);
+        checks.dues("paid", Made.comers(x, 1, 3), 0, 0, 3, 0);
         // without price the cost must still be less, not the same
         PennyQueue y = new PennyQueue();
         y.sort(0, 99, 2, 2);
@@ -546,7 +522,7 @@ public final class PromiseTest {
         y.come(0, 0);
         Checks.window(y, "price 3");
         y.order(4, 9);
-        checks.dues("worthless", comers(y, 0, 2), 0, 0);
+        checks.dues("worthless", Made.comers(y, 0, 2), 0, 0);
     }
 
     private static void full() {
@@ -558,11 +534,11 @@ public final class PromiseTest {
         x.order(5, 2);
         x.order(5, 1);
         // the one at the window doesn't stand
-        checks.dues("full 2", comers(x, 0, 2), 0, 0, 0, 2, 2);
-        checks.dues("full 1", comers(x, 1, 2), 0, 0, 2, 2, 2);
+        checks.dues("full 2", Made.comers(x, 0, 2), 0, 0, 0, 2, 2);
+        checks.dues("full 1", Made.comers(x, 1, 2), 0, 0, 2, 2, 2);
         PennyQueue y = four();
         y.order(5, 9);
-        checks.dues("the cost sends home, too", comers(y, 0, 2), 0, 0, 0, 2);
+        checks.dues("the cost sends home, too", Made.comers(y, 0, 2), 0, 0, 0, 2);
     }
 
     private static void toldRow() {
@@ -578,15 +554,15 @@ public final class PromiseTest {
         x.row(0, 2, 0);
         x.row(0, 9, 0);
         // 0 is told home, 1 pays though the cost is not less, 2 stays though it costs 45; 3 .. 8 as first: home
-        checks.dues("told", comers(x, 0, 2), 2, 1, 0, 2, 2, 2, 2, 2, 2, 0, 2, 2);
-        checks.dues("paid", comers(x, 0, 3), 0, 4, 0, 0, 0, 0, 0, 0, 0, 0, 0, 0);
+        checks.dues("told", Made.comers(x, 0, 2), 2, 1, 0, 2, 2, 2, 2, 2, 2, 0, 2, 2);
+        checks.dues("paid", Made.comers(x, 0, 3), 0, 4, 0, 0, 0, 0, 0, 0, 0, 0, 0, 0);
         Checks.window(x, "price 5");
         // 1 with a price above the purse: as first, who is the first in the lines and goes to the free one
-        checks.dues("too dear", comers(x, 0, 2), 2, 0, 0, 2, 2, 2, 2, 2, 2, 0, 2, 2);
+        checks.dues("too dear", Made.comers(x, 0, 2), 2, 0, 0, 2, 2, 2, 2, 2, 2, 0, 2, 2);
         PennyQueue y = four();
         Checks.window(y, "price 1");
         y.order(6, 1);
-        checks.dues("a row of nothing is as first", comers(y, 0, 2), 0, 1, 1, 1);
+        checks.dues("a row of nothing is as first", Made.comers(y, 0, 2), 0, 1, 1, 1);
     }
 
     private static void noPaying() {
@@ -597,7 +573,7 @@ public final class PromiseTest {
         due("by order nobody pays", x.all(0, 2), 3);
         due("nor by full", x.all(1, 2), 3);
         due("price 0 is paid by none", x.all(2, 5), 0);
-        checks.dues("but it makes a paying line", comers(x, 2, 2), 0, 1, 1, 1);
+        checks.dues("but it makes a paying line", Made.comers(x, 2, 2), 0, 1, 1, 1);
         // cost as much as service: stays
         PennyQueue y = new PennyQueue();
         y.sort(4, 12, 0, 3);
@@ -605,7 +581,7 @@ public final class PromiseTest {
         y.come(0, 0);
         y.come(0, 0);
         y.order(0, 1);
-        checks.dues("no more than service", comers(y, 0, 2), 0, 0, 2);
+        checks.dues("no more than service", Made.comers(y, 0, 2), 0, 0, 2);
         // price as much as the purse: affords it; a cost the same as the free one's: doesn't
         PennyQueue z = new PennyQueue();
         z.sort(2, 99, 6, 3);
@@ -617,7 +593,7 @@ public final class PromiseTest {
         z.come(2, 0);
         Checks.window(z, "price 6");
         z.order(1, 1);
-        checks.dues("affords", comers(z, 0, 2), 0, 0, 1, 0);
+        checks.dues("affords", Made.comers(z, 0, 2), 0, 0, 1, 0);
     }
 
     /** Who comes by the text. */
@@ -628,10 +604,10 @@ public final class PromiseTest {
         x.order(0, 1);
         Checks.window(x, "come 1 t=3;come 0 t=3|t=5;come 0 t<1;come 2 t=4;come 0 t<1");
         x.come(1, 3);
-        checks.dues("by hand, then by sorts", comers(x, 0, 0), 0, 1, 0, 1, 0);
-        checks.dues("minutes", comers(x, 0, 1), 0, 3, 3, 3, 5);
+        checks.dues("by hand, then by sorts", Made.comers(x, 0, 0), 0, 1, 0, 1, 0);
+        checks.dues("minutes", Made.comers(x, 0, 1), 0, 3, 3, 3, 5);
         x.sort(0, 99, 0, 3);
-        checks.dues("a sort that is there then", comers(x, 0, 0), 0, 1, 0, 1, 2, 0);
+        checks.dues("a sort that is there then", Made.comers(x, 0, 0), 0, 1, 0, 1, 2, 0);
         x.clear();
         Checks.window(x, "come 0 n<5;most 3");
         due("most", x.all(0, 0), 3);
@@ -639,17 +615,17 @@ public final class PromiseTest {
         due("ahead", x.all(0, 0), 5);
         // the lines as they are when it is the sort's turn: sort 0 stands in the free line, then sort 1 doesn't come
         Checks.window(x, "come 0 t<2;come 1 f=0;most 9");
-        checks.dues("as the lines are then", comers(x, 0, 0), 0, 0, 1, 1, 1, 1, 1, 1, 1);
+        checks.dues("as the lines are then", Made.comers(x, 0, 0), 0, 0, 1, 1, 1, 1, 1, 1, 1);
         // 1 comes as soon as the line is empty: while one is at the window, one may stand
-        checks.dues("minutes", comers(x, 0, 1), 0, 1, 2, 3, 5, 7, 9, 11, 13);
+        checks.dues("minutes", Made.comers(x, 0, 1), 0, 1, 2, 3, 5, 7, 9, 11, 13);
         Checks.window(x, "come 0 !t<57&(f<9|l=1)&n>0|t=57");
-        checks.dues("not, and, or", comers(x, 0, 1), 57, 58, 59);
+        checks.dues("not, and, or", Made.comers(x, 0, 1), 57, 58, 59);
         // those who went home count in n
         PennyQueue y = new PennyQueue();
         y.sort(1, 0, 0, 9);
         y.order(0, 1);
         Checks.window(y, "come 0 n<4");
-        checks.dues("also those who went home", comers(y, 0, 2), 0, 2, 2, 2);
+        checks.dues("also those who went home", Made.comers(y, 0, 2), 0, 2, 2, 2);
         // 30 without a window, and no clauses
         Checks.window(y, "come 0 t<60");
         due("30 at most", y.all(0, 0), 30);
@@ -659,7 +635,7 @@ public final class PromiseTest {
         PennyQueue z = four();
         z.order(1, 1);
         Checks.window(z, "price 1;come 0 l=2;come 0 l>2&n<6;most 6");
-        checks.dues("l counts the paying line", comers(z, 0, 1), 0, 0, 0, 0, 1, 1);
+        checks.dues("l counts the paying line", Made.comers(z, 0, 1), 0, 0, 0, 0, 1, 1);
     }
 
     // ---- promises 16 to 22
@@ -964,8 +940,8 @@ public final class PromiseTest {
         due("rows stay", x.row(0, 0, 1), 2);
         due("the text stays", x.count(4), 1);
         due("tapes stay", x.read(0, 2), 0);
-        checks.dues("who comes", comers(x, 1, 0), 0, 0, 1, 1);
-        checks.dues("when", comers(x, 1, 1), 0, 0, 0, 1);
+        checks.dues("who comes", Made.comers(x, 1, 0), 0, 0, 1, 1);
+        checks.dues("when", Made.comers(x, 1, 1), 0, 0, 0, 1);
         x.clear();
         due("again", x.undo(), 4);
         x.clear();
