@@ -11,6 +11,7 @@ public final class AskedEdgeTest {
         noPence();
         priceInPlaceOfItsOwn();
         worse();
+        notWorse();
         worseBits();
         loss();
         slow();
@@ -23,6 +24,7 @@ public final class AskedEdgeTest {
         sell();
         sellByEach();
         meanOfSome();
+        meanOfTheText();
         meanByTheWindow();
         meanOdds();
         meanSix();
@@ -222,6 +224,18 @@ public final class AskedEdgeTest {
         due("not more than 5", z.worse(0), 0);
         Checks.window(z, "more 5");
         due("by kind 0 home, too", z.worse(0), 0);
+    }
+
+    /** Each by itself on a new object: as much as by kind 0 is not worse for the first sort either, nor for the last. */
+    private static void notWorse() {
+        for (int kind = 0; kind < 7; kind++) {
+            PennyQueue x = Made.of(s(2, 99, 0, 3), s(2, 99, 0, 3), s(2, 99, 0, 3), s(2, 99, 0, 3), s(2, 99, 0, 3), s(2, 99, 0, 3));
+            x.order(kind, 9);
+            Checks.window(x, "price 1");
+            Made.come(x, 0, 0, 1, 2, 3, 4, 5, 0);
+            // whom the price is too dear, they wait as by kind 0; the poor pass, and only who is passed is worse off
+            due("kind " + kind, x.worse(0), kind == 4 ? 1 : 0);
+        }
     }
 
     private static void worseBits() {
@@ -544,6 +558,24 @@ public final class AskedEdgeTest {
         // with 1: it waits 9; without: 2 waits 9 at 2
         mean("most", y, 27, 2);
         due("all come in the hour itself", y.all(0, 4), 9);
+    }
+
+    /** When nobody of those by hand comes, those of the text still lose. */
+    private static void meanOfTheText() {
+        PennyQueue x = Made.of(s(0, 99, 0, 5), s(3, 99, 0, 2), s(0, 99, 0, 1));
+        x.order(0, 1);
+        Checks.window(x, "come 0 t=0;come 1 t=0");
+        mean("nobody by hand", x, 15, 1);
+        x.odds(2, 0);
+        for (int hands = 1; hands <= 6; hands++) {
+            x.come(2, 0);
+            mean("none of " + hands, x, 15, 1);
+        }
+        x.odds(2, 10);
+        // six of a minute ahead: 18 more
+        mean("six", x, 33, 1);
+        x.odds(2, 5);
+        mean("three of six", x, 24, 1);
     }
 
     private static void meanByTheWindow() {

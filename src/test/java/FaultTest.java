@@ -50,7 +50,22 @@ public final class FaultTest {
             int fault = fault(text);
             checks.due("window of '" + text + "'", Checks.window(new PennyQueue(), text), fault < 0 ? 0 : -10 - fault);
         }
+        everyByte("come 5 !(t<12&f>3)|n=07;price 1;more 20;most 5");
+        everyByte("more 1;more 2;more 3;more 4;more 5;more 6;more 7;come 0 l>9");
+        everyByte("come 1 ((((t=1))))&!!!!f<2;most 40");
         checks.end();
+    }
+
+    /** Each place of a text with each byte that there is. */
+    private static void everyByte(String text) {
+        for (int at = 0; at < text.length(); at++) {
+            for (char c = 0; c < 256; c++) {
+                String other = text.substring(0, at) + c + text.substring(at + 1);
+                int fault = fault(other);
+                checks.due("byte " + (int) c + " at " + at + " of '" + text + "'",
+                    Checks.window(new PennyQueue(), other), fault < 0 ? 0 : -10 - fault);
+            }
+        }
     }
 
     /** With up to two bytes put in, taken out, changed, or the end cut off. */

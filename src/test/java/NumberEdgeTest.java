@@ -250,6 +250,18 @@ public final class NumberEdgeTest {
         due("two then", x.come(0, 50), 2);
         due("it is kept yet", x.undo(), 1);
         checks.dues("its minute again", Made.comers(x, 0, 1), 30);
+        // odds of the sorts that there were; those of a sort that came behind the image stay, and so does the sort
+        x.sort(1, 1, 1, 1);
+        due("odds of the second", x.odds(1, 7), 10);
+        x.odds(0, 4);
+        due("the image has one sort", x.undo(), 1);
+        due("its odds again", x.of(0, 4), 10);
+        due("the second's stay", x.of(1, 4), 7);
+        due("the second stays", x.count(0), 2);
+        due("an image of both", x.image(), 1);
+        x.odds(1, 0);
+        due("back to both", x.undo(), 1);
+        due("now the second's, too", x.of(1, 4), 7);
         // which window holds: an older one, or none
         PennyQueue y = new PennyQueue();
         y.image();
