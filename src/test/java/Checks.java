@@ -45,4 +45,21 @@ final class Checks {
         feed(x, text);
         return x.window();
     }
+
+    /** What window() answers to a text, with few calls. */
+    static int windowByFours(PennyQueue x, String text) {
+        for (int at = 0; at < text.length(); at += 4) {
+            four(x, text, at);
+        }
+        return x.window();
+    }
+
+    /** Feeds the four bytes of a text from a place on, or those that are left, by one call. */
+    static int four(PennyQueue x, String text, int at) {
+        int bytes = 0, n = Math.min(4, text.length() - at);
+        for (int k = 0; k < n; k++) {
+            bytes = bytes << 8 | text.charAt(at + k);
+        }
+        return x.feed(bytes, n);
+    }
 }

@@ -29,12 +29,12 @@ public final class FaultTest {
         return m.matches() || m.hitEnd();
     }
 
-    /** The FAULT, or -1. */
-    private static int fault(String text) {
+    /** The FAULT, or -1, of a text that is told to begin some WINDOW with so many of its bytes. */
+    private static int fault(String text, int fitting) {
         if (WINDOW.matcher(text).matches()) {
             return -1;
         }
-        for (int i = 0; i < text.length(); i++) {
+        for (int i = fitting; i < text.length(); i++) {
             if (!begins(text.substring(0, i + 1))) {
                 return i;
             }
@@ -47,7 +47,7 @@ public final class FaultTest {
         for (int seed = 0; seed < texts; seed++) {
             Random r = new Random(seed);
             String text = spoilt(r, Texts.window(r));
-            int fault = fault(text);
+            int fault = fault(text, 0);
             checks.due("window of '" + text + "'", Checks.window(new PennyQueue(), text), fault < 0 ? 0 : -10 - fault);
         }
         everyByte("come 5 !(t<12&f>3)|n=07;price 1;more 20;most 5");
@@ -61,7 +61,7 @@ public final class FaultTest {
         for (int at = 0; at < text.length(); at++) {
             for (char c = 0; c < 256; c++) {
                 String other = text.substring(0, at) + c + text.substring(at + 1);
-                int fault = fault(other);
+                int fault = fault(other, at);
                 checks.due("byte " + (int) c + " at " + at + " of '" + text + "'",
                     Checks.window(new PennyQueue(), other), fault < 0 ? 0 : -10 - fault);
             }

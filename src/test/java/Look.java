@@ -7,6 +7,8 @@ import java.util.function.Supplier;
  * it, and since a queue is used for at most 512 calls.
  */
 final class Look {
+    static final int MOST_CALLS = 200;
+
     private final Supplier<PennyQueue> made;
     private final List<Long> seen = new ArrayList<>();
 
@@ -18,7 +20,8 @@ final class Look {
         Look look = new Look(made);
         look.counts(made.get());
         look.trace(made.get());
-        look.hours(made.get());
+        look.hours(made.get(), 0, 5);
+        look.hours(made.get(), 5, 10);
         look.rows(made.get());
         look.tapes();
         look.sortsOfTapes(made.get());
@@ -53,8 +56,8 @@ final class Look {
         }
     }
 
-    private void hours(PennyQueue x) {
-        for (int order = 0; order < 10; order++) {
+    private void hours(PennyQueue x, int from, int till) {
+        for (int order = from; order < till; order++) {
             add(x.all(order, 0));
             add(x.all(order, 4));
             add(x.all(order, 5));
@@ -115,8 +118,10 @@ final class Look {
         PennyQueue x = made.get();
         add(x.undo());
         counts(x);
-        PennyQueue y = made.get();
-        y.undo();
-        hours(y);
+        for (int from = 0; from < 10; from += 5) {
+            PennyQueue y = made.get();
+            y.undo();
+            hours(y, from, from + 5);
+        }
     }
 }

@@ -356,16 +356,16 @@ public final class TextEdgeTest {
         String long1 = "come 0 t<1" + many("|t<1", 22), long2 = "come 1 n<0" + many("&n<0", 22);
         PennyQueue x = Made.of(Made.s(0, 99, 0, 1), Made.s(0, 99, 0, 1));
         x.order(0, 1);
-        for (int k = 0; k < 2; k++) {
-            due("a fault", Checks.window(x, long1 + "!"), -108);
-            due("another", Checks.window(x, "price 9;more 9;most 9;come 1 t<60;come 0 t<60;"), -56);
-            due("and another", Checks.window(x, long2 + "|"), -109);
+        for (int k = 0; k < 4; k++) {
+            due("a fault", Checks.windowByFours(x, long1 + "!"), -108);
+            due("another", Checks.windowByFours(x, "price 9;more 9;most 9;come 1 t<60;come 0 t<60;"), -56);
+            due("and another", Checks.windowByFours(x, long2 + "|"), -109);
         }
-        due("a window", Checks.window(x, "come 0 t=2|t=4&!t=5|(t=7)"), 0);
+        due("a window", Checks.windowByFours(x, "come 0 t=2|t=4&!t=5|(t=7)"), 0);
         checks.dues("who comes", Made.comers(x, 0, 0), 0, 0, 0);
         checks.dues("when", Made.comers(x, 0, 1), 2, 4, 7);
         checks.dues("told", tolds(x), 0, 0, 30);
-        due("a long one", Checks.window(x, long1), 1);
+        due("a long one", Checks.windowByFours(x, long1), 1);
         checks.dues("when", Made.comers(x, 0, 1), 0);
     }
 

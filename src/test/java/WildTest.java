@@ -1,4 +1,3 @@
-import java.util.Arrays;
 import java.util.Random;
 
 /**
@@ -7,15 +6,22 @@ import java.util.Random;
  */
 public final class WildTest {
     private static final Checks checks = new Checks("wild");
+    /** Which calls there are: first those that change things; the last is an act. */
     private static final int CALLS = 34, CHANGERS = 15;
+    /** How many calls a step may be: a text by fours, and its window. */
+    private static final int MOST_CALLS = 26;
     private static final int[] EDGES = {Integer.MIN_VALUE, Integer.MIN_VALUE + 1, -1001, -15, -5, -2, -1, 20, 21, 40, 41, 59, 60,
         61, 99, 100, 101, 255, 1000, Integer.MAX_VALUE - 1, Integer.MAX_VALUE};
 
+    private record Step(int which, long answer, int calls) { }
+
     public static void main(String[] args) {
-        int runs = args.length > 0 ? Integer.parseInt(args[0]) : 60;
+        int runs = args.length > 0 ? Integer.parseInt(args[0]) : 200;
         for (int seed = 0; seed < runs; seed++) {
-            long first = run(seed, false);
-            checks.due("run " + seed + " again", run(seed, true), first);
+            checks.due("run " + seed + " again", run(seed), run(seed));
+            for (int steps = seed % 16; steps < 128; steps += 16) {
+                looked(seed, steps);
+            }
         }
         checks.end();
     }
@@ -25,27 +31,54 @@ public final class WildTest {
         return sort == 0 ? r.nextInt() : sort == 1 ? EDGES[r.nextInt(EDGES.length)] : sort < 8 ? r.nextInt(8) : r.nextInt(64);
     }
 
-    private static long run(int seed, boolean looked) {
+    private static long run(int seed) {
         Random r = new Random(seed);
         PennyQueue x = new PennyQueue();
         long sum = 0;
-        for (int k = 0; k < 512; k++) {
-            // the early calls mostly make things
-            int which = k < 100 || r.nextInt(3) == 0 ? r.nextInt(CHANGERS) : r.nextInt(CALLS);
-            int[] a = {number(r), number(r), number(r), number(r), number(r)};
-            long v = r.nextLong();
-            // a look is some hundred calls by itself, so only some calls are looked at
-            boolean look = r.nextInt(16) == 0 && looked;
-            long[] before = look ? look(x) : null;
-            long got = call(x, which, a, v);
-            boolean refused = which >= CHANGERS && which != CALLS - 1 || refusal(which, got);
-            if (look && refused) {
-                checks.due("run " + seed + " call " + k + ": nothing changed by " + which,
-                    Arrays.equals(before, look(x)) ? 1 : 0, 1);
-            }
-            sum = sum * 31 + got;
+        int steps = 0;
+        for (int calls = 0; calls <= 512 - MOST_CALLS; steps++) {
+            Step step = step(x, r, steps);
+            calls += step.calls;
+            sum = sum * 31 + step.answer;
         }
         return sum;
+    }
+
+    private static Step step(PennyQueue x, Random r, int steps) {
+        // the early steps mostly make things
+        int which = steps < 60 || r.nextInt(3) == 0 ? r.nextInt(CHANGERS) : r.nextInt(CALLS);
+        int[] a = {number(r), number(r), number(r), number(r), number(r)};
+        long v = r.nextLong();
+        if (which == 3) {
+            String text = Texts.window(new Random(v));
+            return new Step(which, Checks.windowByFours(x, text), 1 + (text.length() + 3) / 4);
+        }
+        return new Step(which, call(x, which, a, v), 1);
+    }
+
+    private static PennyQueue after(int seed, int steps) {
+        Random r = new Random(seed);
+        PennyQueue x = new PennyQueue();
+        for (int k = 0; k < steps; k++) {
+            step(x, r, k);
+        }
+        return x;
+    }
+
+    /** If the step behind so many is refused or only asks, later calls answer as if it had not been. */
+    private static void looked(int seed, int steps) {
+        Random r = new Random(seed);
+        PennyQueue x = new PennyQueue();
+        int calls = 0;
+        for (int k = 0; k < steps; k++) {
+            calls += step(x, r, k).calls;
+        }
+        Step last = step(x, r, steps);
+        boolean refused = last.which >= CHANGERS && last.which != CALLS - 1 || refusal(last.which, last.answer);
+        if (refused && calls <= 512 - MOST_CALLS - Look.MOST_CALLS) {
+            checks.due("run " + seed + " step " + steps + ": nothing changed by " + last.which,
+                Look.at(() -> after(seed, steps)).equals(Look.at(() -> after(seed, steps + 1))) ? 1 : 0, 1);
+        }
     }
 
     /** Whether an answer of a call that changes things says that it did not. */
@@ -59,6 +92,8 @@ public final class WildTest {
                 return got == -1 || got == -2 || got == -3;
             case 4:
                 return got == -4;
+            case 9:
+                return got == -3;
             default:
                 return false;
         }
@@ -67,9 +102,8 @@ public final class WildTest {
     private static long call(PennyQueue x, int which, int[] a, long v) {
         switch (which) {
             case 0: return x.sort(a[0], a[1], a[2], a[3]);
-            case 1: Checks.feed(x, Texts.window(new Random(v)).substring(0, 5)); return x.count(4);
+            case 1: return Checks.four(x, Texts.window(new Random(v)), 0);
             case 2: return x.feed(a[0], a[1]);
-            case 3: return Checks.window(x, Texts.window(new Random(v)));
             case 4: return x.window();
             case 5: return x.odds(a[0], a[1]);
             case 6: return x.clear();
@@ -107,33 +141,5 @@ public final class WildTest {
             case 32: return x.read(a[0], a[1]);
             default: return x.act(a[0], a[1], a[2]);
         }
-    }
-
-    /** What can be seen of the state. */
-    private static long[] look(PennyQueue x) {
-        long[] seen = new long[1000];
-        int n = 0;
-        for (int what = 0; what < 6; what++) {
-            seen[n++] = x.count(what);
-            seen[n++] = x.told(what);
-            for (int sort = 0; sort < 6; sort++) {
-                seen[n++] = x.of(sort, what);
-            }
-        }
-        for (int order = 0; order < 10; order++) {
-            seen[n++] = x.taken(order, 0);
-            for (int what = 0; what < 8; what++) {
-                seen[n++] = x.all(order, what);
-            }
-        }
-        for (int i = 0; i < 8; i++) {
-            seen[n++] = x.trace(i);
-        }
-        for (int tape = 0; tape < 6; tape++) {
-            for (int i = 0; i < 60; i++) {
-                seen[n++] = x.read(tape, i);
-            }
-        }
-        return seen;
     }
 }
