@@ -725,6 +725,14 @@ public final class HourEdgeTest {
         checks.dues("share", Made.served(z, 1, 0), 2, 0, 3, 1);
         checks.dues("when", Made.served(z, 1, 1), 59, 68, 77, 86);
         due("gone", z.all(1, 6), 95);
+        // many more in the one line than in the other
+        PennyQueue w = Made.of(s(0, 99, 0, 9), s(1, 99, 20, 9));
+        w.order(1, 1);
+        Made.come(w, 59, 0, 1, 1, 1, 1, 1);
+        checks.dues("one free, five paying", Made.served(w, 0, 0), 1, 2, 3, 4, 5, 0);
+        w.clear();
+        Made.come(w, 59, 0, 0, 0, 0, 0, 1);
+        checks.dues("five free, one paying", Made.served(w, 0, 0), 5, 0, 1, 2, 3, 4);
     }
 
     // ---- how many stand in a line at the end of a MINUTE (0 .. 99)
